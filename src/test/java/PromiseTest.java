@@ -205,6 +205,37 @@ public final class PromiseTest {
         due("tokens in hand behind it", x.cancel(), 2);
         due("run(7)", x.run(7), ENDED);
         stackIs("run(7)", x, 7);
+        defineBehindBad();
+        defineTheMost();
+    }
+
+    private static void defineBehindBad() {
+        ForthCompiler x = new ForthCompiler();
+        due("define() of IF", word(x, IF), BAD);
+        due("define() of IF THEN, its THEN added", word(x, THEN), 0);
+        due("define() of DO", word(x, DO), BAD);
+        x.cancel();
+        due("define() of I behind a DO taken away", word(x, I), BAD);
+        x.cancel();
+        due("define() of a word without parts", word(x, DUP), 1);
+    }
+
+    private static void defineTheMost() {
+        ForthCompiler x = new ForthCompiler();
+        x.level(0);
+        int[] tokens = new int[24];
+        for (int w = 0; w < 10; w++) {
+            for (int i = 0; i < 24; i += 2) {
+                tokens[i] = number(w * 24 + i);
+                tokens[i + 1] = i < 22 ? DROP : EXIT;
+            }
+            due("define() of 24 tokens", word(x, tokens), w);
+        }
+        for (int w = 0; w < 10; w++) {
+            due("run(" + w + ") of 24 tokens", x.run(w), ENDED);
+            due("steps() of it", x.steps(), 24);
+            due("pick(0) behind it", x.pick(0), w * 24 + 22);
+        }
     }
 
     private static void cancel() {
@@ -394,6 +425,8 @@ public final class PromiseTest {
         int[] whiles = {BEGIN, DUP, WHILE, number(1), SUBTRACT, REPEAT, number(9)};
         runs("WHILE", whiles, of(3), ENDED, 18, 0, 9);
         runs("WHILE never", whiles, of(0), ENDED, 3, 0, 9);
+        int[] later = {DUP, IF, number(5), BEGIN, DUP, WHILE, number(1), SUBTRACT, REPEAT, THEN};
+        runs("WHILE inside IF", later, of(1), ENDED, 30, 1, 0);
         runs("WHILE of none", of(BEGIN, WHILE, REPEAT), of(), UNDER, 0);
         int[] counting = {DO, I, LOOP};
         runs("DO to 3", counting, of(3, 0), ENDED, 7, 0, 1, 2);

@@ -801,6 +801,27 @@ public final class EdgeTest {
         due("define() of a call of a word forgotten", word(f, call(1)), BAD);
     }
 
+    private static void callOfAWordForgottenMeanwhile() {
+        says("CALL names a word that is there, or the word itself (when it is made, not when the token is given)");
+        Forth f = make();
+        f.define();
+        f.define();
+        f.define();
+        due("token(22, 1) with 3 words", f.token(CALL, 1), 1);
+        f.forget();
+        f.forget();
+        f.forget();
+        due("define() with none left", f.define(), BAD);
+        due("cancel()", f.cancel(), 1);
+        word(f, number(1));
+        word(f, number(2));
+        due("token(22, 1) with 2 words", f.token(CALL, 1), 1);
+        f.forget();
+        due("define() of a call of 1, now itself", f.define(), 1);
+        due("run(1)", f.run(1), DEEP);
+        due("steps()", f.steps(), 7);
+    }
+
     // ---- Terms: steps, and how a run ends ----
 
     /** A token in its place: what is before and behind it, and what the stack is before and after. */
@@ -1919,6 +1940,7 @@ public final class EdgeTest {
         partsOfTheMostTokens();
         iInsideALoop();
         callNamesAWordThatIsThere();
+        callOfAWordForgottenMeanwhile();
         stepsOfEachToken();
         tiredAtEachToken();
         threeHundredSteps();
